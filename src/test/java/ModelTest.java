@@ -816,7 +816,7 @@ public final class ModelTest {
         "alike", "go", "go", "now", "chain", "ahead", "writes", "caught", "when", "copyFrom", "kindFor", "learn",
         "limitFor", "forbid", "biscuitsFor", "sources", "fits", "knew", "kinds", "seats", "odds", "seed", "feed",
         "wipe", "text", "hold", "as", "sheet", "write", "copy", "load", "judge", "image", "undo", "tear", "count",
-        "status", "FILL", "TEXT", "MARKS",
+        "status", "FILL", "TEXT", "MARKS", "TEMPT", "TEMPT",
     };
 
     private static void step() {
@@ -850,6 +850,7 @@ public final class ModelTest {
             case "limitFor" -> call(name, about(0, 20));
             case "forbid" -> call(name, about(0, chance.nextInt(3) == 0 ? 12 : 3));
             case "sources", "fits", "knew", "kinds", "MARKS", "FILL" -> onSheets(name);
+            case "TEMPT" -> tempt(chance.nextInt(8));
             case "seats" -> call(name, about(1, 20));
             case "odds" -> call(name, aChild(), about(0, 20), about(0, 1));
             case "seed" -> call(name, chance.nextInt());
@@ -867,6 +868,26 @@ public final class ModelTest {
             case "count" -> call(name, about(0, 7));
             case "status" -> call(name, about(-1, 6));
             default -> feedText();
+        }
+    }
+
+    /** A CHILD that can pay for long, knows little and copies, so that some are caught. */
+    private static void tempt(int c) {
+        int[] kinds = {2, 2, 3, 3, 4, 0, 1, 6};
+        call("change", c, 0, kinds[chance.nextInt(kinds.length)]);
+        call("change", c, 1, 1 << chance.nextInt(8) & any(0, 255));
+        call("change", c, 2, chance.nextInt(8));
+        call("change", c, 4, any(0, 999));
+    }
+
+    /** One who knows much, and many who copy from it or from one another. */
+    private static void temptingClass() {
+        for (int c = 0; c < 8; c++) {
+            call("child", 0, c == 0 ? 255 : 0);
+        }
+        for (int c = 1; c < 8; c++) {
+            tempt(c);
+            call("change", c, 2, chance.nextInt(c));
         }
     }
 
@@ -942,6 +963,9 @@ public final class ModelTest {
             model = new Model();
             run = new StringBuilder();
             calls = 0;
+            if (i % 2 == 0) {
+                temptingClass();
+            }
             int first = chance.nextInt(9);
             for (int c = 0; c < first; c++) {
                 call("child", any(0, 6), chance.nextInt(3) == 0 ? 255 : any(0, 255) & any(0, 255));

@@ -359,14 +359,19 @@ public final class PromisesTest {
             x.go(60);
         }
         due(11, "go(40), DAY 99960", x.go(40), STATE);
+        x.image();
+        due(11, "go(39), DAY 99960", x.go(39), 9999);
+        due(42, "undo()", x.undo(), 99960);
         due(28, "seats(20), DAY 99960", x.seats(20), 9999);
-        due(11, "go(19)", x.go(19), 9999);
+        due(11, "go(9)", x.go(9), 9999);
+        due(28, "seats(11), DAY 99989", x.seats(11), STATE);
+        due(28, "seats(10), DAY 99989", x.seats(10), 9999);
         due(11, "now(0)", x.now(0), 99999);
         due(11, "go(1), last", x.go(1), STATE);
         due(11, "go(61), last", x.go(61), BEYOND);
         due(28, "seats(1), last", x.seats(1), STATE);
         due(14, "ahead(0, 3, 60), last", x.ahead(0, 3, 60), 9999);
-        due(45, "status(4)", x.status(4), 3);
+        due(45, "status(4)", x.status(4), 4);
     }
 
     private static void seen() {
@@ -430,6 +435,8 @@ public final class PromisesTest {
         due(14, "ahead(1, 3, 61)", x.ahead(1, 3, 61), BEYOND);
         due(15, "writes(1, 1, 0)", x.writes(1, 1, 0), -1);
         due(15, "writes(1, 1, 1)", x.writes(1, 1, 1), 52);
+        due(15, "writes(0, 0, 1)", x.writes(0, 0, 1), 14);
+        due(15, "writes(1, 7, 1)", x.writes(1, 7, 1), 19);
         due(15, "writes(1, 1, 3)", x.writes(1, 1, 3), 33);
         due(15, "writes(1, 3, 3)", x.writes(1, 3, 3), -1);
         due(15, "writes(3, 1, 1)", x.writes(3, 1, 1), BEYOND);
@@ -789,7 +796,7 @@ public final class PromisesTest {
             "child biscuits 1000", "child biscuits 1 from 0", "child knows 1 knows 1", "right", "right 8 0", "right 1",
             "right 1 100", "limit 0", "limit 10", "limit 1 1", "limit 1,", "Child", "child\t;child", "xbiscuits",
             "child xbiscuits 5", "limit 1;limit 2;limit 3;x", "child from 0000", "child knows;", "right 1;2",
-            "child\u00e9", "limit 1 ;", "limit 1 ; ", "knows 1", "5", "honestknows 3",
+            "child\u00e9", "limit 1 ;", "limit 1 ; ", "knows 1", "5", "honestknows 3", "child biscuits 9990",
         };
         int[] at = {
             0, 3, 0, 6, 6, 0, 6, 11, 12,
@@ -797,7 +804,7 @@ public final class PromisesTest {
             15, 17, 14, 5, 6, 7,
             8, 6, 6, 8, 7, 0, 5, 0,
             6, 24, 11, 11, 7,
-            5, 9, 10, 0, 0, 0,
+            5, 9, 10, 0, 0, 0, 15,
         };
         for (int i = 0; i < texts.length; i++) {
             SumsCopied x = new SumsCopied();
@@ -869,6 +876,9 @@ public final class PromisesTest {
         due(36, "sheet(0, 8, 41)", x.sheet(0, 8, 41), BEYOND);
         due(36, "load(0)", x.load(0), MISSING);
         due(36, "sheet(0, 16, 40)", x.sheet(0, 16, 40), 40);
+        due(36, "sheet(3, 8, 1)", x.sheet(3, 8, 1), 1);
+        due(36, "sheet(3, 0, 41)", x.sheet(3, 0, 41), BEYOND);
+        due(36, "load(3)", x.load(3), 1);
         due(37, "write(0, 39, 1)", x.write(0, 39, 1), 1);
         due(37, "write(0, 40, 1)", x.write(0, 40, 1), BEYOND);
         due(37, "write(0, -1, 1)", x.write(0, -1, 1), BEYOND);
@@ -883,7 +893,7 @@ public final class PromisesTest {
 
         // The lowest bits, the highest of them for the sign: seen by what load() takes and judge() finds.
         fill(x, 1, 8, 256 + 5, 128);
-        due(37, "load(1)", x.load(1), 1);
+        due(37, "load(1), 8 bits", x.load(1), 1);
         due(37, "isRight(0)", x.isRight(0), 5);
         fill(x, 1, 16, 65536 + 7, 32768);
         due(37, "load(1)", x.load(1), 1);
